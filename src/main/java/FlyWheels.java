@@ -230,7 +230,7 @@ public final class FlyWheels {
         trial.startAs(now);
         int fastest = trial.shaftSpeed();
         for (int t = 0; t < n; t++) {
-            trial.passTick();
+            trial.passTick(trial.dueAct());
             fastest = Math.max(fastest, trial.shaftSpeed());
         }
         switch (what) {
@@ -265,7 +265,7 @@ public final class FlyWheels {
             if (trial.swings[w] == 0) {
                 return t;
             }
-            trial.passTick();
+            trial.passTick(trial.dueAct());
         }
         return NONE;
     }
@@ -273,7 +273,7 @@ public final class FlyWheels {
     public int again() {
         trial.startAs(now);
         for (int t = 1; t <= MOST_AHEAD; t++) {
-            trial.passTick();
+            trial.passTick(trial.dueAct());
             if (trial.dueNumber() == now.dueNumber() && trial.swingsAs(now)) {
                 return t;
             }
@@ -495,7 +495,7 @@ public final class FlyWheels {
         for (int t = 0; t < n; t++) {
             s = s * 1103515245 + 12345;
             int got = (s >>> 16) & 32767;
-            trial.passTickWith(got % (MOST_ACT + 1));
+            trial.passTick(got % (MOST_ACT + 1));
         }
         return what == 0 ? trial.done : trial.allSwing();
     }
@@ -641,7 +641,7 @@ public final class FlyWheels {
         for (int t = 0; t < n; t++) {
             int due = trial.dueAct();
             boolean fail = (fails >> t & 1) == 1 && due < LOADS;
-            trial.passTickWith(fail ? IDLE : due);
+            trial.passTick(fail ? IDLE : due);
         }
     }
 
@@ -695,7 +695,7 @@ public final class FlyWheels {
             if (!trialIsAsSeen(t)) {
                 return false;
             }
-            trial.passTick();
+            trial.passTick(trial.dueAct());
         }
         return true;
     }
@@ -717,7 +717,7 @@ public final class FlyWheels {
                 trial.losses[w] = loss;
                 for (int t = 0; t <= MOST_LOOK; t++) {
                     looks[loss * (MOST_LOOK + 1) + t] = trial.swings[w];
-                    trial.passTick();
+                    trial.passTick(trial.dueAct());
                 }
             }
         }
@@ -913,11 +913,8 @@ public final class FlyWheels {
             }
         }
 
-        void passTick() {
-            passTickWith(dueAct());
-        }
-
-        void passTickWith(int v) {
+        /** A tick whose act is v. */
+        void passTick(int v) {
             perform(v);
             for (int w = 0; w < wheels; w++) {
                 int taken = Math.min(losses[w], swings[w]);
@@ -929,7 +926,7 @@ public final class FlyWheels {
 
         void runTicks(int n) {
             for (int t = 0; t < n; t++) {
-                passTick();
+                passTick(dueAct());
             }
         }
     }

@@ -401,6 +401,8 @@ public final class BoundsTest {
         sums.ticks(3);
         due("DONE before does not count", sums.runs(9, 0), 0);
         due("LACK before does not count", sums.runs(2, 1), 6);
+        x.ticks(10);
+        due("LOSSES before do not count", x.runs(5, 2), 5);
     }
 
     private static void ahead() {
@@ -788,8 +790,13 @@ public final class BoundsTest {
         due("all are alike for ever", apart.ask(0, 0), NONE);
         due("all are alike for ever", apart.ask(0, 1), NONE);
         apart.alter(0, 3, 9);
-        apart.see(1, 0, 3);
-        due("one is left already", apart.ask(0, 0), NONE);
+        for (int loss = 0; loss <= 9; loss++) {
+            apart.forget(0);
+            apart.see(1, 0, 9 - loss);
+            due("LOSS " + loss + " is left already", apart.losses(0), 1 << loss);
+            due("LOSS " + loss + " is left already", apart.ask(0, 0), NONE);
+            due("LOSS " + loss + " is left already", apart.ask(0, 1), NONE);
+        }
         apart.see(1, 0, 2);
         due("none is left already", apart.ask(0, 0), NONE);
         due("none is left already", apart.ask(0, 1), NONE);
@@ -955,6 +962,10 @@ public final class BoundsTest {
                 due("n " + row[0], new FlyWheels().sheet(3, lane, row[0]), row[1]);
             }
             FlyWheels x = new FlyWheels();
+            x.sheet(0, lane, 40);
+            for (int i = 0; i < 40; i++) {
+                x.lay(0, i, 9);
+            }
             x.sheet(0, lane, 5);
             x.lay(0, 4, 7);
             due("41 more", x.sheet(0, lane, 41), BAD);
@@ -963,6 +974,9 @@ public final class BoundsTest {
             due("what was refused left it", x.count(3), 5);
             due("what was refused left it", x.read(0, lane, 4, 1), 1);
             due("what was refused left it", x.act(0), 7);
+            for (int i = 0; i < 5; i++) {
+                x.lay(0, i, 9);
+            }
             due("a new row", x.sheet(0, (lane + 1) % 3, 40), 1);
             for (int i = 0; i < 40; i++) {
                 x.drop(0);

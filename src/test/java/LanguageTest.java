@@ -6,7 +6,9 @@ import java.nio.file.Files;
 import java.nio.file.Path;
 import java.util.ArrayList;
 import java.util.List;
+import java.util.Map;
 import java.util.Set;
+import java.util.TreeMap;
 import java.util.TreeSet;
 import java.util.regex.Matcher;
 import java.util.regex.Pattern;
@@ -118,6 +120,50 @@ public final class LanguageTest {
         }
     }
 
+    /** What each method calls, by name; names are told apart well enough, as none is used twice. */
+    private static Map<String, Set<String>> calls(String code) {
+        Map<String, String> bodies = new TreeMap<>();
+        Matcher m = Pattern.compile("(?ms)^( {4}| {8})(?:(?:public|private|static|final) )*[\\w\\[\\]]+ (\\w+)\\([^\n]*\\) \\{\n"
+            + "(.*?)^\\1\\}$").matcher(code);
+        while (m.find()) {
+            ask(bodies.put(m.group(2), m.group(3)) == null, "a method's name is used once: " + m.group(2));
+        }
+        Map<String, Set<String>> calls = new TreeMap<>();
+        for (String name : bodies.keySet()) {
+            Set<String> called = new TreeSet<>();
+            Matcher call = Pattern.compile("\\b(\\w+)\\(").matcher(bodies.get(name));
+            while (call.find()) {
+                if (!Set.of("if", "for", "while", "switch").contains(call.group(1))) {
+                    called.add(call.group(1));
+                }
+            }
+            calls.put(name, called);
+        }
+        return calls;
+    }
+
+    /** How many calls stand open at most, this one and the library's too. */
+    private static int depth(String name, Map<String, Set<String>> calls, int open) {
+        if (open > 40) {
+            ask(false, "8: no recursion: " + name);
+            return 0;
+        }
+        int deepest = 0;
+        for (String called : calls.getOrDefault(name, Set.of())) {
+            deepest = Math.max(deepest, depth(called, calls, open + 1));
+        }
+        return deepest + 1;
+    }
+
+    private static void depths(String code) {
+        Map<String, Set<String>> calls = calls(code);
+        for (String signature : FACE) {
+            String name = signature.replaceAll(".* |\\(.*", "");
+            ask(calls.containsKey(name), "its calls are found: " + name);
+            ask(depth(name, calls, 0) <= 8, "11: calls go eight deep: " + name + ", " + depth(name, calls, 0));
+        }
+    }
+
     public static void main(String[] args) throws IOException, ReflectiveOperationException {
         String source = Files.readString(Path.of("src/main/java/FlyWheels.java"));
         String code = source.replaceAll("(?s)/\\*.*?\\*/", "").replaceAll("//[^\n]*", "");
@@ -125,6 +171,7 @@ public final class LanguageTest {
         words(code);
         making(code);
         lengths(code);
+        depths(code);
         System.out.println(wrong == 0 ? "the language is kept to" : wrong + " rules are broken");
         if (wrong != 0) {
             System.exit(1);

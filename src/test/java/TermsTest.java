@@ -494,6 +494,10 @@ public final class TermsTest {
 
     private static void faultTwo() {
         sentence("2 a TOKEN that can not stand there (a NAME that begins no line; or the end: the length).");
+        for (String line : new String[] {"plain 7 3;", "slip 7 3;", "take 7 3;", "soft 7 3;", "shaft 3;", "drive 3;",
+            "load 3;", "join 3;"}) {
+            nearNames(line);
+        }
         refusedText("x", 0, 2);
         refusedText("drive 1; plains 1 1;", 9, 2);
         refusedText("drive 1; plai 1 1;", 9, 2);
@@ -507,6 +511,18 @@ public final class TermsTest {
         refusedText("drive load 1;", 6, 2);
         refusedText("drive 1 load 1;", 8, 2);
         refusedText("shaft ;", 6, 2);
+    }
+
+    /** One letter of the NAME is another, is gone, or is there twice. */
+    private static void nearNames(String line) {
+        for (int i = 0; i < line.indexOf(' '); i++) {
+            String ahead = line.substring(0, i);
+            String behind = line.substring(i + 1);
+            refusedText(ahead + "z" + behind, 0, 2);
+            refusedText(ahead + (char) (line.charAt(i) + 1) + behind, 0, 2);
+            refusedText(ahead + behind, 0, 2);
+            refusedText(ahead + line.charAt(i) + line.charAt(i) + behind, 0, 2);
+        }
     }
 
     private static void faultThree() {
